@@ -60,6 +60,8 @@ final class BestTest {
         x.alter(0, 0, 0);
         x.blow(2, 4);
         check.due("reach(0) held by a WALL", x.reach(0), 12);
+        x = Check.told("small 0 0 1 0;");
+        check.due("reach(0) by all FORCES, 5 CELLS by 9", x.reach(0), 11);
         check.due("reach(1)", x.reach(1), VoiceFall.BAD);
         check.due("reach(-1)", x.reach(-1), VoiceFall.BAD);
     }

@@ -93,5 +93,10 @@ final class ChangeTest {
         check.due("the 6th", x.say(0, 0, 1), VoiceFall.FULL);
         check.due("the 6th, not as told", x.say(0, 0, 0), VoiceFall.BAD);
         check.due("rule(0)", x.rule(0), 5);
+        x = Check.told("sermon 12 1 4 3;");
+        x.text();
+        check.due("say in place of a sermon that is gone", x.say(0, 0, 1), 0);
+        check.due("plain", x.saying(0, 0), 0);
+        check.due("HOUR", x.saying(0, 4), 0);
     }
 }

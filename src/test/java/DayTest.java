@@ -100,6 +100,10 @@ final class DayTest {
         check.due("field(3, 0)", x.field(3, 0), 5);
         check.due("field(13, 0)", x.field(13, 0), 2);
         check.due("field(77, 0)", x.field(77, 0), 0);
+        x.alter(1, 3, 2);
+        check.due("hears(1) behind a change", x.hears(1), 0);
+        x.alter(1, 3, 1);
+        check.due("field(13, 0) behind a change", x.field(13, 0), 2);
         x.stand(0, 0);
         x.stand(2, 0);
         check.due("sum(0)", x.sum(0), 1);

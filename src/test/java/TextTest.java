@@ -7,6 +7,7 @@ final class TextTest {
         feedAndEnd();
         soundTexts();
         faults();
+        fullTapes();
         faultsOfNumber();
         refusedTextLeavesAll();
         takenTextReplacesAll();
@@ -111,6 +112,9 @@ final class TextTest {
         refused("walls 1;", 2, 0);
         refused("wal 1;", 2, 0);
         refused("wall 1; proposals 1", 2, 8);
+        refused("a", 2, 0);
+        refused("z 1;", 2, 0);
+        refused("wallz 1;", 2, 0);
         refused("wall", 2, 4);
         refused("wall   ", 2, 7);
         refused("wall 1", 2, 6);
@@ -130,6 +134,16 @@ final class TextTest {
         refused("wall 0;wall 1;wall 2;wall 3;wall 4;wall 5;wall 6;wall 7;wall 10;wall 11;wall 12;wall 13;wall 999", 5, 88);
         refused("hearer 0;hearer 0;hearer 0;hearer 0; hearer 99;", 5, 37);
         refused("plain 0 0 1 0;small 0 0 1 0;sermon 0 0 1 0;proposal 0 0 1 0;plain 0 0 1 0;small", 5, 74);
+    }
+
+    private static void fullTapes() {
+        taken(" ".repeat(160), 0);
+        taken(" ".repeat(153) + "wall 1;", 1);
+        refused("a".repeat(160), 2, 0);
+        refused("7".repeat(160), 1, 0);
+        refused(" ".repeat(154) + "wall 1", 2, 160);
+        refused(" ".repeat(156) + "wall", 2, 160);
+        refused("wall 1" + " ".repeat(154), 2, 160);
     }
 
     private static void faultsOfNumber() {
@@ -184,6 +198,8 @@ final class TextTest {
         check.due("back(0)", x.back(0), VoiceFall.STATE);
         check.due("keep(0)", x.keep(0), 0);
         check.due("SHEETS stay", x.count(3), 7);
+        check.due("an HOUR told by the text ahead", Check.tell(x, "wind 3 2;"), 1);
+        check.due("wind(3)", x.wind(3), 2);
         check.due("an empty text", x.text(), 0);
         check.due("tells nothing", x.rule(0) + x.rule(2) + x.rule(3), 0);
     }
