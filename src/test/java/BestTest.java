@@ -10,10 +10,11 @@ final class BestTest {
         walk();
         walks();
         when();
-        check.finish();
+        check.finish(20, 26);
     }
 
     private static void most() {
+        check.promise(20, "most");
         VoiceFall x = Check.told("wall 0;wall 1;");
         check.due("most(0) of nothing", x.most(0), 2);
         check.due("most(1) of nothing", x.most(1), 0);
@@ -29,6 +30,7 @@ final class BestTest {
     }
 
     private static void aim() {
+        check.promise(21, "aim");
         VoiceFall x = Check.told("small 0 0 9 0;");
         check.due("aim(0, 0)", x.aim(0, 0), 12);
         check.due("aim(0, 3)", x.aim(0, 3), 50);
@@ -47,6 +49,7 @@ final class BestTest {
     }
 
     private static void reach() {
+        check.promise(22, "reach");
         VoiceFall x = Check.told("plain 33 0 1 0;");
         check.due("reach(0)", x.reach(0), 14);
         x.alter(0, 0, 2);
@@ -67,6 +70,7 @@ final class BestTest {
     }
 
     private static void screen() {
+        check.promise(23, "screen");
         VoiceFall x = Check.told("plain 0 1 5 0;");
         check.due("screen(50)", x.screen(50), 10);
         check.due("screen(40): nothing LANDS there", x.screen(40), VoiceFall.NONE);
@@ -85,6 +89,7 @@ final class BestTest {
     }
 
     private static void walk() {
+        check.promise(24, "walk");
         VoiceFall x = new VoiceFall();
         check.due("walk(0, 0)", x.walk(0, 0), 0);
         check.due("walk(0, 27)", x.walk(0, 27), 9);
@@ -115,6 +120,7 @@ final class BestTest {
     }
 
     private static void walks() {
+        check.promise(25, "walks");
         VoiceFall x = new VoiceFall();
         check.due("walks(0)", x.walks(0), 49);
         check.due("walks(33)", x.walks(33), 64);
@@ -132,6 +138,7 @@ final class BestTest {
     }
 
     private static void when() {
+        check.promise(26, "when");
         VoiceFall x = Check.told("plain 33 0 2 5;wind 3 1;wind 4 1;wind 7 3;hearer 45;hearer 25;hearer 25;");
         check.due("when(0, 0)", x.when(0, 0), 6);
         check.due("when(0, 1)", x.when(0, 1), 2);

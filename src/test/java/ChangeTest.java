@@ -8,10 +8,11 @@ final class ChangeTest {
         build();
         blow();
         say();
-        check.finish();
+        check.finish(11, 15);
     }
 
     private static void alter() {
+        check.promise(11, "alter");
         VoiceFall x = Check.told("small 12 1 4 3;");
         int[] was = {1, 12, 1, 4, 3};
         int[] most = {3, 77, 3, 9, 9};
@@ -32,6 +33,7 @@ final class ChangeTest {
     }
 
     private static void stand() {
+        check.promise(12, "stand");
         VoiceFall x = Check.told("wall 5;hearer 12;hearer 13;");
         check.due("stand(1, 77)", x.stand(1, 77), 13);
         check.due("stand(1, 5), a WALL", x.stand(1, 5), 77);
@@ -44,6 +46,7 @@ final class ChangeTest {
     }
 
     private static void build() {
+        check.promise(13, "build");
         VoiceFall x = new VoiceFall();
         check.due("build no CELL", x.build(80, true), VoiceFall.BAD);
         check.due("build no CELL", x.build(9, false), VoiceFall.BAD);
@@ -63,6 +66,7 @@ final class ChangeTest {
     }
 
     private static void blow() {
+        check.promise(14, "blow");
         VoiceFall x = new VoiceFall();
         check.due("blow(0, 0)", x.blow(0, 0), 4);
         check.due("blow(9, 3)", x.blow(9, 3), 4);
@@ -76,6 +80,7 @@ final class ChangeTest {
     }
 
     private static void say() {
+        check.promise(15, "say");
         VoiceFall x = Check.told("sermon 12 1 4 3;");
         check.due("say(80, 0, 1)", x.say(80, 0, 1), VoiceFall.BAD);
         check.due("say(0, 4, 1)", x.say(0, 4, 1), VoiceFall.BAD);

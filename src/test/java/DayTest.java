@@ -10,7 +10,7 @@ final class DayTest {
         manyWalls();
         heard();
         wrong();
-        check.finish();
+        check.finish(16, 19);
     }
 
     private static void lands(VoiceFall x, int s, int cell, int hour, int steps) {
@@ -20,6 +20,7 @@ final class DayTest {
     }
 
     private static void edges() {
+        check.promise(16, "lands: the edges of the coast");
         VoiceFall x = Check.told("plain 33 0 9 0;plain 33 1 9 0;plain 33 2 9 0;plain 33 3 9 0;plain 70 3 9 8;");
         lands(x, 0, 37, 2, 4);
         lands(x, 1, 73, 2, 4);
@@ -36,6 +37,7 @@ final class DayTest {
     }
 
     private static void winds() {
+        check.promise(16, "lands: WINDS");
         VoiceFall x = Check.told("plain 33 0 2 0;wind 0 3;wind 1 1;");
         lands(x, 0, 45, 1, 2);
         x.build(45, true);
@@ -52,6 +54,7 @@ final class DayTest {
     }
 
     private static void sermons() {
+        check.promise(16, "lands: sermons");
         VoiceFall x = Check.told("plain 0 0 9 2;sermon 20 3 3 1;plain 0 1 3 1;plain 6 2 9 0;");
         lands(x, 3, 0, 3, 6);
         lands(x, 1, 0, 2, 2);
@@ -71,6 +74,7 @@ final class DayTest {
     }
 
     private static void proposals() {
+        check.promise(16, "lands: proposals");
         VoiceFall x = Check.told("proposal 0 0 3 0;wall 2;wall 4;wall 14;wind 2 1;");
         lands(x, 0, 14, 2, 4);
         x.alter(0, 0, 0);
@@ -79,6 +83,7 @@ final class DayTest {
     }
 
     private static void manyWalls() {
+        check.promise(19, "sum: WALLS then");
         VoiceFall x = Check.told("sermon 70 0 1 0;sermon 71 0 1 0;plain 73 2 3 1;"
             + "wall 0;wall 1;wall 2;wall 3;wall 4;wall 5;wall 6;wall 7;wall 10;wall 11;wall 12;");
         check.due("sum(1): the 13th is not there", x.sum(1), 12);
@@ -91,38 +96,48 @@ final class DayTest {
     }
 
     private static void heard() {
+        check.promise(17, "hears");
         VoiceFall x = Check.told("plain 0 0 3 0;plain 3 1 1 0;plain 13 3 1 0;hearer 3;hearer 13;hearer 3;hearer 77;");
         check.due("hears(0)", x.hears(0), 1 + 4);
         check.due("hears(1)", x.hears(1), 2);
         check.due("hears(2)", x.hears(2), 1 + 4);
         check.due("hears(3)", x.hears(3), 0);
         check.due("sum(0): what several hear is one", x.sum(0), 3);
+        check.promise(18, "field");
         check.due("field(3, 0)", x.field(3, 0), 5);
         check.due("field(13, 0)", x.field(13, 0), 2);
         check.due("field(77, 0)", x.field(77, 0), 0);
         x.alter(1, 3, 2);
+        check.promise(17, "hears");
         check.due("hears(1) behind a change", x.hears(1), 0);
         x.alter(1, 3, 1);
+        check.promise(18, "field");
         check.due("field(13, 0) behind a change", x.field(13, 0), 2);
         x.stand(0, 0);
         x.stand(2, 0);
+        check.promise(19, "sum");
         check.due("sum(0)", x.sum(0), 1);
     }
 
     private static void wrong() {
+        check.promise(16, "lands: BAD");
         VoiceFall x = new VoiceFall();
         check.due("lands(0, 0)", x.lands(0, 0), VoiceFall.BAD);
+        check.promise(17, "hears: BAD");
         check.due("hears(0)", x.hears(0), VoiceFall.BAD);
+        check.promise(19, "sum");
         for (int what = 0; what < 4; what++) {
             check.due("sum(" + what + ") of nothing", x.sum(what), 0);
         }
         check.due("sum(4)", x.sum(4), VoiceFall.BAD);
         check.due("sum(-1)", x.sum(-1), VoiceFall.BAD);
         x.say(0, 0, 1);
+        check.promise(16, "lands: BAD");
         check.due("lands(0, 3)", x.lands(0, 3), VoiceFall.BAD);
         check.due("lands(0, -1)", x.lands(0, -1), VoiceFall.BAD);
         check.due("lands(1, 0)", x.lands(1, 0), VoiceFall.BAD);
         check.due("lands(-1, 0)", x.lands(-1, 0), VoiceFall.BAD);
+        check.promise(18, "field: BAD");
         check.due("field(78, 0)", x.field(78, 0), VoiceFall.BAD);
         check.due("field(0, 2)", x.field(0, 2), VoiceFall.BAD);
         check.due("field(0, -1)", x.field(0, -1), VoiceFall.BAD);

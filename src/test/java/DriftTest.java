@@ -13,10 +13,11 @@ final class DriftTest {
         }
         check.that("something was heard by drift", heard > 0);
         wrong(tape);
-        check.finish();
+        check.finish(35, 35);
     }
 
     private static int step(String tape, int seed, int n) {
+        check.promise(35, "drift");
         VoiceFall x = Check.told(tape);
         VoiceFall y = Check.told(tape);
         long next = seed;
@@ -36,6 +37,7 @@ final class DriftTest {
     }
 
     private static void wrong(String tape) {
+        check.promise(35, "drift: refused");
         VoiceFall x = new VoiceFall();
         check.due("drift of nothing", x.drift(1, 1, 0), VoiceFall.STATE);
         check.due("drift of nothing, n 0", x.drift(1, 0, 0), VoiceFall.BAD);

@@ -7,7 +7,7 @@ final class OddsTest {
         shared();
         sermon();
         mean();
-        check.finish();
+        check.finish(27, 28);
     }
 
     private static void luck(VoiceFall x, int v, int s, int cell, long up, long down) {
@@ -21,6 +21,7 @@ final class OddsTest {
     }
 
     private static void luck() {
+        check.promise(27, "luck");
         VoiceFall x = Check.told("plain 33 0 2 0;wind 1 1;");
         luck(x, 4, 0, 35, 2, 5);
         luck(x, 4, 0, 45, 3, 5);
@@ -41,6 +42,7 @@ final class OddsTest {
 
     /** One HOUR has one WIND: a sermon and a plain one that LAND in it fare alike. */
     private static void shared() {
+        check.promise(27, "luck: one HOUR");
         VoiceFall x = Check.told("sermon 33 0 1 0;plain 43 0 1 0;wind 0 1;");
         luck(x, 3, 0, 33, 3, 10);
         luck(x, 3, 0, 43, 7, 10);
@@ -54,6 +56,7 @@ final class OddsTest {
 
     /** Where the sermon LANDS turns on a WIND, and with it the HOUR, and so the WIND, of the other one. */
     private static void sermon() {
+        check.promise(27, "luck: sermons");
         VoiceFall x = Check.told("sermon 12 0 1 0;plain 0 1 4 1;wind 0 2;wind 1 0;wind 3 0;");
         luck(x, 2, 1, 40, 1, 5);
         x.alter(0, 1, 11);
@@ -66,6 +69,7 @@ final class OddsTest {
     }
 
     private static void mean() {
+        check.promise(28, "mean");
         VoiceFall x = new VoiceFall();
         mean(x, 3, 0, 1);
         x = Check.told("plain 33 0 2 0;plain 33 0 4 0;plain 0 0 2 0;hearer 45;hearer 47;hearer 2;wind 1 1;wind 2 1;");

@@ -9,21 +9,25 @@ final class SeenTest {
         froms();
         look();
         lookThroughASermon();
-        check.finish();
+        check.finish(29, 34);
     }
 
     private static void seeAndForget() {
+        check.promise(29, "see");
         VoiceFall x = Check.told("plain 0 0 1 0;plain 0 1 1 0;");
         check.due("see(2, 0)", x.see(2, 0), VoiceFall.BAD);
         check.due("see(-1, 0)", x.see(-1, 0), VoiceFall.BAD);
         check.due("see(0, 8)", x.see(0, 8), VoiceFall.BAD);
+        check.promise(30, "forget");
         check.due("forget(1) of nothing", x.forget(1), VoiceFall.BAD);
         check.due("forget(0) of nothing", x.forget(0), 0);
+        check.promise(29, "see");
         for (int i = 1; i <= 6; i++) {
             check.due("see the same again " + i, x.see(0, 1), i);
         }
         check.due("the 7th", x.see(0, 1), VoiceFall.FULL);
         check.due("the 7th, no CELL", x.see(0, 80), VoiceFall.BAD);
+        check.promise(30, "forget");
         check.due("forget(7)", x.forget(7), VoiceFall.BAD);
         check.due("forget(-1)", x.forget(-1), VoiceFall.BAD);
         check.due("forget(6)", x.forget(6), 6);
@@ -34,6 +38,7 @@ final class SeenTest {
     }
 
     private static void kinds() {
+        check.promise(31, "kinds");
         VoiceFall x = Check.told("plain 0 0 3 0;");
         check.due("kinds(0), nothing SEEN", x.kinds(0), 15);
         x.see(0, 2);
@@ -53,6 +58,7 @@ final class SeenTest {
     }
 
     private static void forces() {
+        check.promise(32, "forces");
         VoiceFall x = Check.told("small 0 0 1 0;plain 77 2 1 0;");
         check.due("forces(0), nothing SEEN", x.forces(0), 1022);
         x.see(0, 2);
@@ -67,6 +73,7 @@ final class SeenTest {
     }
 
     private static void froms() {
+        check.promise(33, "froms");
         VoiceFall x = Check.told("plain 0 0 3 0;wall 25;");
         check.due("froms(0, 0), nothing SEEN", x.froms(0, 0), 64);
         check.due("froms(0, 1), nothing SEEN", x.froms(0, 1), 0);
@@ -88,6 +95,7 @@ final class SeenTest {
     }
 
     private static void look() {
+        check.promise(34, "look");
         VoiceFall x = Check.told("plain 70 0 1 0;plain 0 0 1 0;");
         check.due("look(1, 0)", x.look(1, 0), 1);
         check.due("look(1, 1): 7, 8, 9 come to one CELL", x.look(1, 1), 3);
@@ -108,6 +116,7 @@ final class SeenTest {
 
     /** A plain one tells by where it is held which FORCE the sermon ahead had: SAYING 0 does it first. */
     private static void lookThroughASermon() {
+        check.promise(34, "look: through a sermon");
         VoiceFall x = Check.told("plain 20 0 9 1;sermon 20 0 1 0;");
         check.due("look(1, 0)", x.look(1, 0), 0);
         check.due("look(1, 1)", x.look(1, 1), 2);

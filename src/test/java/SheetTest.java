@@ -10,10 +10,11 @@ final class SheetTest {
         torn();
         refusedRead();
         count();
-        check.finish();
+        check.finish(36, 42);
     }
 
     private static void images() {
+        check.promise(36, "keep, and back");
         VoiceFall x = Check.told("plain 11 1 4 0;wall 31;wind 2 0;hearer 22;");
         check.due("keep(2)", x.keep(2), VoiceFall.BAD);
         check.due("keep(-1)", x.keep(-1), VoiceFall.BAD);
@@ -35,6 +36,7 @@ final class SheetTest {
         x.sheet(0, 0, 5);
         x.feed(32);
         check.due("keep(1)", x.keep(1), 0);
+        check.promise(37, "back");
         check.due("back(0)", x.back(0), 1);
         check.due("KIND", x.saying(0, 0), 0);
         check.due("WALL", x.wall(31), 1);
@@ -56,6 +58,7 @@ final class SheetTest {
     }
 
     private static void sheetAndLay() {
+        check.promise(38, "sheet, and lay");
         VoiceFall x = new VoiceFall();
         check.due("sheet(4, 0, 1)", x.sheet(4, 0, 1), VoiceFall.BAD);
         check.due("sheet(-1, 0, 1)", x.sheet(-1, 0, 1), VoiceFall.BAD);
@@ -83,6 +86,7 @@ final class SheetTest {
 
     /** 513 is 1 in a byte; 65537 is 1 in a short; a new row is 0 again. */
     private static void lanes() {
+        check.promise(39, "lay: its lowest bits");
         int[] force = {256 * 7 + 3, 65536 * 7 + 3, 3};
         for (int lane = 0; lane < 3; lane++) {
             VoiceFall x = new VoiceFall();
@@ -129,6 +133,7 @@ final class SheetTest {
     }
 
     private static void read() {
+        check.promise(40, "read");
         VoiceFall x = rows(1, 9, 11, 0, 1, 22, 1, 2, 33, 2, 3);
         check.due("read(4, ..)", x.read(4, 1, 0, 1), VoiceFall.BAD);
         check.due("read(-1, ..)", x.read(-1, 1, 0, 1), VoiceFall.BAD);
@@ -151,6 +156,7 @@ final class SheetTest {
     }
 
     private static void torn() {
+        check.promise(41, "torn");
         VoiceFall x = rows(0, 8, 11, 0, 1, 22, 1, 2, 33, 2);
         check.due("the third is not whole", x.read(2, 0, 0, 3), 2);
         check.due("torn()", x.torn(), 2);
@@ -176,6 +182,7 @@ final class SheetTest {
     }
 
     private static void refusedRead() {
+        check.promise(40, "read: refused by say()");
         VoiceFall x = rows(2, 8, 11, 0, 1, 22, 4, 2, 88, 2);
         x.read(2, 0, 0, 1);
         check.due("the second is refused", x.read(2, 2, 0, 3), -21);
@@ -193,6 +200,7 @@ final class SheetTest {
     }
 
     private static void count() {
+        check.promise(42, "count");
         VoiceFall x = Check.told("plain 0 0 9 0;small 0 0 7 0;");
         check.due("count(4)", x.count(4), 16);
         x.see(0, 0);

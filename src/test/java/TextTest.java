@@ -12,10 +12,11 @@ final class TextTest {
         refusedTextLeavesAll();
         takenTextReplacesAll();
         whatIsTold();
-        check.finish();
+        check.finish(1, 10);
     }
 
     private static void newObject() {
+        check.promise(1, "a new object");
         VoiceFall x = new VoiceFall();
         for (int what = 0; what < 4; what++) {
             check.due("new rule(" + what + ")", x.rule(what), 0);
@@ -44,17 +45,21 @@ final class TextTest {
     }
 
     private static void feedAndEnd() {
+        check.promise(2, "feed");
         VoiceFall x = new VoiceFall();
         check.due("feed(-1)", x.feed(-1), VoiceFall.BAD);
         check.due("feed(128)", x.feed(128), VoiceFall.BAD);
+        check.promise(3, "end");
         check.due("end(1) of nothing", x.end(1), VoiceFall.BAD);
         check.due("end(0) of nothing", x.end(0), 0);
+        check.promise(2, "feed");
         for (int i = 1; i <= 160; i++) {
             check.due("feed " + i, x.feed(i % 2 == 0 ? 0 : 127), i);
         }
         check.due("the 161st", x.feed(32), VoiceFall.FULL);
         check.due("the 161st, no byte", x.feed(200), VoiceFall.BAD);
         check.due("count(2)", x.count(2), 160);
+        check.promise(3, "end");
         check.due("end(161)", x.end(161), VoiceFall.BAD);
         check.due("end(-1)", x.end(-1), VoiceFall.BAD);
         check.due("end(160)", x.end(160), 160);
@@ -69,6 +74,7 @@ final class TextTest {
     }
 
     private static void soundTexts() {
+        check.promise(4, "text: what is taken");
         taken("", 0);
         taken("   ", 0);
         taken("wall 0;", 1);
@@ -98,6 +104,7 @@ final class TextTest {
     }
 
     private static void faults() {
+        check.promise(4, "text: FAULTS");
         refused("Wall 1;", 1, 0);
         refused("wall 1;\t", 1, 7);
         refused("wall 1,", 1, 6);
@@ -137,6 +144,7 @@ final class TextTest {
     }
 
     private static void fullTapes() {
+        check.promise(4, "text: of a full TAPE");
         taken(" ".repeat(160), 0);
         taken(" ".repeat(153) + "wall 1;", 1);
         refused("a".repeat(160), 2, 0);
@@ -147,6 +155,7 @@ final class TextTest {
     }
 
     private static void faultsOfNumber() {
+        check.promise(4, "text: FAULT 3");
         refused("plain 80 0 1 0;", 3, 6);
         refused("plain 8 0 1 0;", 3, 6);
         refused("small 08 0 1 0;", 3, 6);
@@ -162,6 +171,7 @@ final class TextTest {
     }
 
     private static void refusedTextLeavesAll() {
+        check.promise(4, "text: that which was told stays");
         VoiceFall x = Check.told("plain 11 1 4 0;wall 31;wind 2 0;hearer 22;");
         x.see(0, 21);
         x.keep(1);
@@ -175,10 +185,12 @@ final class TextTest {
         check.due("SEEN stay", x.count(0), 1);
         check.due("IMAGES stay", x.count(1), 1);
         check.due("text of an empty TAPE", x.text(), 0);
+        check.promise(5, "fault");
         check.due("fault() of the latest", x.fault(), 0);
     }
 
     private static void takenTextReplacesAll() {
+        check.promise(4, "text: tells all, in place of what there was");
         VoiceFall x = Check.told("plain 11 1 4 0;wall 31;wind 2 0;hearer 22;");
         x.see(0, 21);
         x.keep(0);
@@ -205,6 +217,7 @@ final class TextTest {
     }
 
     private static void whatIsTold() {
+        check.promise(7, "saying");
         VoiceFall x = Check.told("plain 11 1 4 0;small 55 2 5 2;sermon 30 0 1 1;proposal 37 3 9 9;wall 31;wind 2 0;wind 9 4;wind 3 3;hearer 22;hearer 52;");
         int[][] due = {{0, 11, 1, 4, 0, 4}, {1, 55, 2, 5, 2, 3}, {2, 30, 0, 1, 1, 0}, {3, 37, 3, 9, 9, 10}};
         for (int s = 0; s < 4; s++) {
@@ -216,24 +229,29 @@ final class TextTest {
         }
         check.due("saying(4, 0)", x.saying(4, 0), VoiceFall.BAD);
         check.due("saying(-1, 0)", x.saying(-1, 0), VoiceFall.BAD);
+        check.promise(6, "rule");
         check.due("rule(0)", x.rule(0), 4);
         check.due("rule(1)", x.rule(1), 2);
         check.due("rule(2)", x.rule(2), 1);
         check.due("rule(3)", x.rule(3), 12);
         check.due("rule(4)", x.rule(4), VoiceFall.BAD);
         check.due("rule(-1)", x.rule(-1), VoiceFall.BAD);
+        check.promise(8, "hearer");
         check.due("hearer(0)", x.hearer(0), 22);
         check.due("hearer(1)", x.hearer(1), 52);
         check.due("hearer(2)", x.hearer(2), VoiceFall.BAD);
         check.due("hearer(-1)", x.hearer(-1), VoiceFall.BAD);
+        check.promise(9, "wall");
         check.due("wall(31)", x.wall(31), 1);
         check.due("wall(13)", x.wall(13), 0);
         check.due("wall(8)", x.wall(8), VoiceFall.BAD);
+        check.promise(10, "wind");
         check.due("wind(2)", x.wind(2), 0);
         check.due("wind(3)", x.wind(3), 3);
         check.due("wind(9)", x.wind(9), 4);
         check.due("wind(10)", x.wind(10), VoiceFall.BAD);
         check.due("wind(-1)", x.wind(-1), VoiceFall.BAD);
+        check.promise(7, "saying: REACH");
         int[][] reaches = {{1, 2, 3, 4, 5, 6, 7, 8, 9}, {1, 1, 2, 2, 3, 3, 4, 4, 5}, {0, 1, 2, 3, 4, 5, 6, 7, 8}, {2, 2, 4, 4, 6, 6, 8, 8, 10}};
         for (int kind = 0; kind < 4; kind++) {
             for (int force = 1; force <= 9; force++) {
