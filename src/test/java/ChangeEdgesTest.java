@@ -236,5 +236,10 @@ final class ChangeEdgesTest {
         check.due("KIND", x.saying(1, 0), 0);
         check.due("HOUR", x.saying(1, 4), 0);
         check.due("the one ahead stays", x.saying(0, 4), 9);
+        x = Check.told("proposal 1 1 1 9;");
+        x.text();
+        check.due("say, behind a text that told none", x.say(3, 3, 3), 0);
+        check.due("KIND", x.saying(0, 0), 0);
+        check.due("HOUR", x.saying(0, 4), 0);
     }
 }

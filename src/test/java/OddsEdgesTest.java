@@ -104,6 +104,16 @@ final class OddsEdgesTest {
         luck(x, 3, 1, 54, 7, 10);
         luck(x, 3, 2, 54, 7, 10);
         luck(x, 3, 2, 44, 3, 10);
+        x = Check.told("sermon33 0 1 0;plain 42 0 1 0;wind 0 1;");
+        luck(x, 3, 1, 43, 3, 10);
+        luck(x, 3, 1, 52, 7, 10);
+        check.promise(27, "one HOUR has one WIND: another HOUR is met between, and the first one again");
+        x = Check.told("sermon33 0 1 0;plain 0 0 2 0;plain 42 0 1 0;wind 0 1;wind 1 1;");
+        luck(x, 3, 2, 43, 3, 10);
+        luck(x, 3, 2, 52, 7, 10);
+        luck(x, 3, 2, 42, 0, 1);
+        luck(x, 3, 2, 53, 0, 1);
+        luck(x, 3, 1, 12, 7, 10);
         check.promise(27, "three HOURS, the first met again");
         x = Check.told("sermon33 0 1 0;plain 0 0 1 1;plain10 0 1 2;plain 34 1 2 0;plain60 0 1 0;wind 0 1;wind 1 1;wind 2 1;");
         luck(x, 4, 4, 71, 3, 5);
