@@ -2,8 +2,8 @@ import java.util.ArrayList;
 import java.util.List;
 
 /**
- * "What is refused changes nothing (but THE TAPE, as told)": every call of the face that can be refused is made, in each
- * way in which it can be, on coasts that are empty, rich, full; all that can be asked thereafter is as without it.
+ * "What is refused changes nothing (but THE TAPE, as told)": every call of the face that can be refused is refused here,
+ * by each sort of answer, on coasts that are empty, rich, full; all that can be asked thereafter is as without it.
  */
 final class RefusedTest {
     private static final Check check = Check.begin();
