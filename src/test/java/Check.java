@@ -1,3 +1,4 @@
+import java.util.List;
 import java.util.TreeSet;
 
 /** What the project's tests share: answers that are due, the promise they belong to, and the telling of a text. */
@@ -5,6 +6,12 @@ final class Check {
     /** Numbers that name no CELL: beside the coast on each side, and far off. */
     private static final int[] NO_CELLS = {-1, -2, -10, -11, 8, 9, 18, 19, 28, 38, 48, 58, 68, 69, 78, 79, 80, 81, 87, 88, 90, 99, 100,
         107, 256, 65536, Integer.MAX_VALUE, Integer.MIN_VALUE};
+
+    /** The calls in the order of the document: the first is promise 2, since promise 1 is a new object. */
+    static final List<String> CALLS = List.of("feed", "end", "text", "fault", "rule", "saying", "hearer", "wall", "wind", "alter",
+        "stand", "build", "blow", "say", "lands", "hears", "field", "sum", "most", "aim", "reach", "screen", "walk", "walks", "when",
+        "luck", "mean", "see", "forget", "kinds", "forces", "froms", "look", "drift", "keep", "back", "sheet", "lay", "read", "torn",
+        "count");
 
     private final TreeSet<Integer> promises = new TreeSet<>();
     private int promise;
@@ -21,6 +28,11 @@ final class Check {
     void promise(int number, String words) {
         promise = number;
         sentence = words;
+    }
+
+    /** Likewise, by the name of a call. */
+    void promiseOf(String call, String words) {
+        promise(CALLS.indexOf(call) + 2, words);
     }
 
     void due(String call, long got, long want) {

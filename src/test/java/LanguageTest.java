@@ -11,7 +11,7 @@ import java.util.TreeSet;
 import java.util.regex.Matcher;
 import java.util.regex.Pattern;
 
-/** The face of the document, and what of LANGUAGE.md can be found in the source and the class. */
+/** Promises 1 to 42: the face of the document; and what of LANGUAGE.md can be found in the source and the class. */
 final class LanguageTest {
     private static final Check check = Check.begin();
 
@@ -30,7 +30,7 @@ final class LanguageTest {
         face();
         classesInside();
         words(Files.readString(Path.of("src/main/java/VoiceFall.java")));
-        check.finish();
+        check.finish(1, 42);
     }
 
     private static String told(Method m) {
@@ -39,6 +39,10 @@ final class LanguageTest {
             types.add(type.getName());
         }
         return m.getReturnType().getName() + " " + m.getName() + "(" + String.join(",", types) + ")";
+    }
+
+    private static String nameOf(String call) {
+        return call.substring(call.indexOf(' ') + 1, call.indexOf('('));
     }
 
     private static void face() {
@@ -50,7 +54,12 @@ final class LanguageTest {
                 found.add(told(m));
             }
         }
-        check.that("the methods of the face: " + found, found.equals(due));
+        for (String call : FACE) {
+            check.promiseOf(nameOf(call), "the public face");
+            check.that(call + " is there", found.contains(call));
+        }
+        check.promise(0, "");
+        check.that("no other methods: " + found, found.equals(due));
         Set<String> constants = new TreeSet<>();
         for (Field f : VoiceFall.class.getDeclaredFields()) {
             if (!Modifier.isPrivate(f.getModifiers())) {
@@ -61,8 +70,10 @@ final class LanguageTest {
         }
         check.that("the constants of the face: " + constants, constants.equals(Set.of("BAD", "STATE", "FULL", "NONE")));
         Constructor<?>[] constructors = VoiceFall.class.getDeclaredConstructors();
+        check.promise(1, "VoiceFall()");
         check.that("one public constructor", constructors.length == 1 && Modifier.isPublic(constructors[0].getModifiers())
             && constructors[0].getParameterCount() == 0);
+        check.promise(0, "");
         check.that("public and final", (VoiceFall.class.getModifiers() & (Modifier.PUBLIC | Modifier.FINAL)) == (Modifier.PUBLIC | Modifier.FINAL));
         check.due("BAD", VoiceFall.BAD, -1);
         check.due("STATE", VoiceFall.STATE, -2);
@@ -73,7 +84,7 @@ final class LanguageTest {
     private static void classesInside() {
         Set<String> names = new TreeSet<>();
         for (String line : FACE) {
-            names.add(line.substring(line.indexOf(' ') + 1, line.indexOf('(')));
+            names.add(nameOf(line));
         }
         List<Class<?>> all = new ArrayList<>(List.of(VoiceFall.class.getDeclaredClasses()));
         check.that("at most twelve classes", all.size() < 12);

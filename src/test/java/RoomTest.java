@@ -1,7 +1,7 @@
 import java.lang.management.ManagementFactory;
 import java.util.Random;
 
-/** Calls make no objects, whatever they are given, and none of them throws: for any arguments, in any state. */
+/** Promises 1 to 42: no call throws, for any arguments, in any state, and none makes objects. */
 final class RoomTest {
     private static final Check check = Check.begin();
     private static final int[] ODD = {-1, 0, 1, 2, 3, 4, 5, 6, 7, 8, 9, 10, 11, 12, 13, 14, 22, 33, 40, 41, 59, 60, 61, 70, 77, 78, 80,
@@ -10,13 +10,31 @@ final class RoomTest {
     public static void main(String[] args) {
         for (int seed = 0; seed < 300; seed++) {
             Random random = new Random(seed);
-            VoiceFall x = seed % 3 == 0 ? new VoiceFall() : full();
-            for (int i = 0; i < 512; i++) {
-                call(x, random.nextInt(41), random, seed % 2 == 0);
+            check.promise(1, "No WALLS, no SAYINGS, nobody");
+            VoiceFall x = new VoiceFall();
+            check.that("nothing is there", x.rule(0) + x.rule(1) + x.rule(2) == 0);
+            if (seed % 3 > 0) {
+                x = full();
+            }
+            for (int i = 0; i < 256; i++) {
+                calmly(x, random.nextInt(41), random, seed % 2 == 0);
             }
         }
+        check.promise(0, "");
         calm();
-        check.finish();
+        check.finish(1, 42);
+    }
+
+    private static void calmly(VoiceFall x, int which, Random random, boolean small) {
+        String call = Check.CALLS.get(which);
+        check.promiseOf(call, "for any arguments, in any state");
+        String thrown = "";
+        try {
+            call(x, which, random, small);
+        } catch (RuntimeException e) {
+            thrown = e.toString();
+        }
+        check.that(call + " does not throw " + thrown, thrown.isEmpty());
     }
 
     private static VoiceFall full() {
